@@ -47,6 +47,9 @@ public final class BestTest {
         CHECK.due("need(1, 4) by two on", x.need(1, 4), Check.NONE);
         x.turn(1, 0);
         CHECK.due("need(1, 2), lost before", x.need(1, 2), 0);
+        // OFF 3 is held by the greatest grip alone, else the FIELD goes on to OFF 4 and -3.
+        CoilWheels far = CHECK.told("plain 0 5;signs 0 1 1;");
+        CHECK.due("far: need(0, 3)", far.need(0, 3), 3);
     }
 
     private static void kind() {
@@ -63,6 +66,10 @@ public final class BestTest {
         CHECK.due("kind(0, 0, 2)", x.kind(0, 0, 2), Check.BAD);
         CHECK.due("kind(0, 0, -1)", x.kind(0, 0, -1), Check.BAD);
         CHECK.stays("kind", before, x);
+        // A TURN back at first: all but the stiff one go on, and stay a TURN back, while it stays at 7.
+        CoilWheels stiff = CHECK.told("plain 3 7;signs 0 3 3;");
+        CHECK.due("stiff: kind(0, 3, 0)", stiff.kind(0, 3, 0), 3);
+        CHECK.due("stiff: kind(0, 3, 1)", stiff.kind(0, 3, 1), 0);
     }
 
     private static void swap() {
@@ -86,6 +93,18 @@ public final class BestTest {
         CHECK.due("less: swap(7, 1)", less.swap(7, 1), 1);
         CoilWheels none = CHECK.told("plain 0 0;");
         CHECK.due("no signs: swap(7, 0)", none.swap(7, 0), Check.NONE);
+        // On first, FIELD 1 is OFF -3 and none lost; behind both SIGNS it is 0 in any case.
+        CoilWheels two = CHECK.told("plain 0 4;signs 2 1;");
+        CHECK.due("two: swap(1, 0)", two.swap(1, 0), 1);
+        CHECK.due("two: swap(1, 1)", two.swap(1, 1), 0);
+        CHECK.due("two: swap(2, 0)", two.swap(2, 0), Check.NONE);
+        // A SIGN that was cut off is none to change with.
+        CoilWheels cut = CHECK.told("plain 0 0;signs 1 1 1 1 1 2;");
+        cut.cut(5);
+        CHECK.due("cut: swap(5, 0)", cut.swap(5, 0), Check.NONE);
+        CoilWheels full = CHECK.told("plain 0 0;signs 1 1 1 1 1 0 0 0 0 0 0 0 0 0 0 2;");
+        CHECK.due("full: swap(15, 0)", full.swap(15, 0), 15);
+        CHECK.due("full: swap(5, 0)", full.swap(5, 0), 5);
     }
 
     private static void ease() {
@@ -103,6 +122,14 @@ public final class BestTest {
         CHECK.stays("ease", before, x);
         CoilWheels one = CHECK.told("plain 0 0;plain 0 1;signs 0 1 1 1 1 2 1 1;");
         CHECK.due("one: ease(8, 0)", one.ease(8, 0), 1);
+        CoilWheels full = CHECK.told("plain 0 0;signs 0 0 0 0 0 0 0 0 0 0 0 0 0 3 1 3;");
+        CHECK.due("full: ease(16, 0)", full.ease(16, 0), 13);
+        full.set(13, 1);
+        full.set(14, 2);
+        full.set(0, 3);
+        full.set(1, 1);
+        CHECK.due("full: runs(16, 1)", full.runs(16, 1), 100005);
+        CHECK.due("full: ease(16, 0) then", full.ease(16, 0), 0);
         CoilWheels never = CHECK.told("plain 0 0;signs 3 3 3 1;");
         CHECK.due("never: ease(4, 0)", never.ease(4, 0), Check.NONE);
     }

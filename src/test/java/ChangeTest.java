@@ -59,6 +59,23 @@ public final class ChangeTest {
         CHECK.due("turn(0, 0) again", x.turn(0, 0), 99993);
         CHECK.due("rotor(0, 2)", x.rotor(0, 2), 99993);
         CHECK.due("rotor(1, 2): the other stays", x.rotor(1, 2), 100001);
+        turnToTheLimit(16, 100000 + 30000);
+        turnToTheLimit(0, 100000 - 30000);
+    }
+
+    /** The limit lies further off than 512 calls can turn; the code is held to it all the same. */
+    private static void turnToTheLimit(int v, int limit) {
+        CoilWheels x = CHECK.told("plain 1 0;");
+        for (int i = 0; i < 3749; i++) {
+            x.turn(0, v);
+        }
+        CHECK.due("turn(0, " + v + ") to the limit", x.turn(0, v), limit);
+        String before = Check.stateOf(x);
+        CHECK.due("turn a place beyond", x.turn(0, v == 0 ? 7 : 9), Check.FULL);
+        CHECK.due("turn beyond", x.turn(0, v), Check.FULL);
+        CHECK.due("turn(0, 17) is bad first", x.turn(0, 17), Check.BAD);
+        CHECK.stays("turn beyond", before, x);
+        CHECK.due("turn(0, 8) at the limit", x.turn(0, 8), limit);
     }
 
     private static void set() {

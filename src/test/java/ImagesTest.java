@@ -5,6 +5,7 @@ public final class ImagesTest {
     public static void main(String[] args) {
         keepAndBack();
         imagesStandApart();
+        whatWasSeenComesBack();
         whatIsNotInAnImage();
         count();
         CHECK.finish();
@@ -71,6 +72,24 @@ public final class ImagesTest {
         CHECK.due("sign(0)", x.sign(0), 1);
         CHECK.due("count(0)", x.count(0), 0);
         CHECK.due("count(1)", x.count(1), 2);
+    }
+
+    private static void whatWasSeenComesBack() {
+        CoilWheels x = CHECK.told("plain 3 0;plain 3 0;signs 1;");
+        x.see(3, 0, 3);
+        x.keep(0);
+        CHECK.due("kinds(0)", x.kinds(0), 3);
+        // Each of the three numbers of it is another then.
+        int[][] others = {{4, 0, 3}, {3, 1, 3}, {3, 0, 4}};
+        int[] kinds = {4, 15, 0};
+        for (int i = 0; i < others.length; i++) {
+            x.forget(0);
+            x.see(others[i][0], others[i][1], others[i][2]);
+            CHECK.due("kinds(0) by another", x.kinds(0), kinds[i]);
+            x.back(0);
+            CHECK.due("count(0) back", x.count(0), 1);
+            CHECK.due("kinds(0) back", x.kinds(0), 3);
+        }
     }
 
     private static void whatIsNotInAnImage() {

@@ -78,7 +78,7 @@ public final class LuckTest {
 
     private static void wrongNumbers() {
         CoilWheels x = CHECK.told("plain 1 0;signs 1;");
-        int[][] bad = {{-1, 0, 1, 0}, {11, 0, 1, 0}, {3, -1, 1, 0}, {3, 1, 1, 0},
+        int[][] bad = {{-1, 0, 1, 0}, {11, 0, 1, 0}, {11, 0, 2, 0}, {-1, 0, 2, 0}, {3, -1, 1, 0}, {3, 1, 1, 0},
             {3, 0, -1, 0}, {3, 0, 9, 0}, {3, 0, 1, -1}, {3, 0, 1, 2}};
         for (int[] a : bad) {
             CHECK.due("luck(" + a[0] + ", " + a[1] + ", " + a[2] + ", " + a[3] + ")",

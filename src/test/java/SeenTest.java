@@ -146,6 +146,11 @@ public final class SeenTest {
         CHECK.due("ask(0, 2)", x.ask(0, 2), Check.BAD);
         CHECK.due("ask(0, -1)", x.ask(0, -1), Check.BAD);
         CHECK.due("count(0)", x.count(0), 2);
+        CoilWheels heavy = CHECK.told("heavy 3 0;signs 1 0;");
+        heavy.ticks(1);
+        heavy.see(1, 0, 1);
+        CHECK.due("heavy: ask(0, 0) of two", heavy.ask(0, 0), 0);
+        CHECK.due("heavy: ask(0, 1) of two", heavy.ask(0, 1), 1);
     }
 
     private static void wrongRotors() {

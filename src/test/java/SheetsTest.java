@@ -5,6 +5,7 @@ public final class SheetsTest {
     public static void main(String[] args) {
         sheet();
         lay();
+        newRowsAreOfZeros();
         lowestBits();
         read();
         readTorn();
@@ -51,6 +52,21 @@ public final class SheetsTest {
         CHECK.due("lay(0, 0, 9) of another", x.lay(0, 0, 9), -11);
         x.sheet(1, 0, 0);
         CHECK.due("lay(1, 0, 9) of an empty row", x.lay(1, 0, 9), -12);
+    }
+
+    private static void newRowsAreOfZeros() {
+        CoilWheels x = CHECK.told("signs 3 3;");
+        for (int lane = 0; lane <= 2; lane++) {
+            x.sheet(0, lane, 40);
+            for (int i = 0; i < 40; i++) {
+                x.lay(0, i, 9);
+            }
+            CHECK.due("read of nines", x.read(0, lane, 0, 1), -20);
+            x.sheet(0, lane, 40);
+            CHECK.due("read of a new row", x.read(0, lane, 0, 20), 20);
+            CHECK.due("sign(0)", x.sign(0), 0);
+            x.set(0, 3);
+        }
     }
 
     private static void lowestBits() {

@@ -118,6 +118,14 @@ public final class TextTest {
         faulty(";", 2, 0);
         faulty("7", 2, 0);
         faulty("x", 2, 0);
+        faulty("a", 2, 0);
+        faulty("z", 2, 0);
+        faulty("plaiz 1 2;", 2, 0);
+        for (String name : new String[] {"plain", "quick", "heavy", "stiff", "signs", "every"}) {
+            for (int i = 0; i < name.length(); i++) {
+                faulty(name.substring(0, i) + "x" + name.substring(i + 1) + " 1;", 2, 0);
+            }
+        }
         faulty("plai 1 2;", 2, 0);
         faulty("plains 1 2;", 2, 0);
         faulty("signsignsigns 1;", 2, 0);
@@ -255,6 +263,9 @@ public final class TextTest {
             x.alter(3, 1, grip);
             CHECK.due("rule(5) by grip " + grip, x.rule(5), grip < 3 ? 12 : 4);
         }
+        CHECK.due("turn(0, 7)", x.turn(0, 7), 99999);
+        CHECK.due("rule(5) with the first", x.rule(5), 5);
+        CHECK.due("turn(0, 9)", x.turn(0, 9), 100000);
         // ALL LOST is summed without signs: LOST 1, 0, -1, -1.
         x.turn(0, 0);
         CHECK.due("rule(6) then", x.rule(6), 3);
