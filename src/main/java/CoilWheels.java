@@ -28,6 +28,9 @@ public final class CoilWheels {
     private static final int TICK_LIMIT = 10000;
     private static final int PLACE_LIMIT = 30000;
 
+    /** What of a ROTOR is tried; of its place, by how much further on. */
+    private static final int ITS_KIND = 0, ITS_GRIP = 1, ITS_PLACE = 2;
+
     /** Added to what may lie below 0, so that it is never taken for a refusal. */
     private static final int LIFT = 100000, SMALL_LIFT = 10;
 
@@ -37,7 +40,6 @@ public final class CoilWheels {
     private final Sights sights;
     private final Image[] images;
     private final Sheet[] sheets;
-    private int textFault;
     private int readFault;
 
     public CoilWheels() {
@@ -81,8 +83,7 @@ public final class CoilWheels {
     public int text() {
         int lines = tape.takeLines();
         tape.length = 0;
-        textFault = tape.fault;
-        if (textFault != 0) {
+        if (tape.fault != 0) {
             return -10 - tape.faultPlace;
         }
         now.copyFrom(tape.draft);
@@ -94,7 +95,7 @@ public final class CoilWheels {
     }
 
     public int fault() {
-        return textFault;
+        return tape.fault;
     }
 
     public int rule(int what) {
@@ -275,8 +276,7 @@ public final class CoilWheels {
             return BAD;
         }
         for (int v = 0; v <= LAST_GRIP; v++) {
-            trial.copyFrom(now);
-            trial.rotors[r].grip = v;
+            tryWith(r, ITS_GRIP, v);
             if (losesNothingMore(r, n)) {
                 return v;
             }
@@ -288,18 +288,7 @@ public final class CoilWheels {
         if (!hasRotor(r) || !within(n, TICKS_AHEAD) || !within(what, 1)) {
             return BAD;
         }
-        int best = NONE;
-        int least = Integer.MAX_VALUE;
-        for (int v = 0; v <= LAST_KIND; v++) {
-            trial.copyFrom(now);
-            trial.rotors[r].sort = v;
-            int lost = allLostBehind(n);
-            if (lost < least) {
-                least = lost;
-                best = v;
-            }
-        }
-        return what == 0 ? best : least;
+        return leastLostBy(r, ITS_KIND, LAST_KIND, n, what);
     }
 
     public int swap(int n, int what) {
@@ -350,18 +339,7 @@ public final class CoilWheels {
         if (!hasRotor(r) || !within(n, TICKS_AHEAD) || !within(what, 1)) {
             return BAD;
         }
-        int best = NONE;
-        int least = Integer.MAX_VALUE;
-        for (int v = 0; v < TURN; v++) {
-            trial.copyFrom(now);
-            trial.rotors[r].place += v;
-            int lost = allLostBehind(n);
-            if (lost < least) {
-                least = lost;
-                best = v;
-            }
-        }
-        return what == 0 ? best : least;
+        return leastLostBy(r, ITS_PLACE, TURN - 1, n, what);
     }
 
     // ---- coils that fail
@@ -413,37 +391,15 @@ public final class CoilWheels {
     }
 
     public int kinds(int r) {
-        if (!hasRotor(r)) {
-            return BAD;
-        }
-        int bits = 0;
-        for (int v = 0; v <= LAST_KIND; v++) {
-            trial.copyFrom(now);
-            trial.rotors[r].sort = v;
-            if (goesAsSeen()) {
-                bits |= 1 << v;
-            }
-        }
-        return bits;
+        return hasRotor(r) ? asSeenBy(r, ITS_KIND, LAST_KIND) : BAD;
     }
 
     public int grips(int r) {
-        if (!hasRotor(r)) {
-            return BAD;
-        }
-        int bits = 0;
-        for (int v = 0; v <= LAST_GRIP; v++) {
-            trial.copyFrom(now);
-            trial.rotors[r].grip = v;
-            if (goesAsSeen()) {
-                bits |= 1 << v;
-            }
-        }
-        return bits;
+        return hasRotor(r) ? asSeenBy(r, ITS_GRIP, LAST_GRIP) : BAD;
     }
 
     public int starts(int r) {
-        return hasRotor(r) ? startsAsSeen(r) : BAD;
+        return hasRotor(r) ? asSeenBy(r, ITS_PLACE, TURN - 1) : BAD;
     }
 
     public int ask(int r, int what) {
@@ -452,7 +408,7 @@ public final class CoilWheels {
         }
         // Behind 0 TICKS no two of the starts leave the same by 8: a look at once
         // leaves one of them, and no later look leaves fewer at the worst.
-        if (Integer.bitCount(startsAsSeen(r)) < 2) {
+        if (Integer.bitCount(asSeenBy(r, ITS_PLACE, TURN - 1)) < 2) {
             return NONE;
         }
         return what == 0 ? 0 : 1;
@@ -590,10 +546,36 @@ public final class CoilWheels {
         return hasSign(i) && within(v, LAST_SIGN);
     }
 
+    /** Lets the trial be as all is now, but for one thing of a ROTOR. */
+    private void tryWith(int r, int thing, int v) {
+        trial.copyFrom(now);
+        Rotor rotor = trial.rotors[r];
+        switch (thing) {
+            case ITS_KIND: rotor.sort = v; break;
+            case ITS_GRIP: rotor.grip = v; break;
+            default: rotor.place += v; break;
+        }
+    }
+
     /** Runs the trial on by n TICKS. */
     private int allLostBehind(int n) {
         trial.go(n);
         return trial.allLost();
+    }
+
+    /** The value from 0 on of one thing of a ROTOR by which ALL LOST is least, or how much. */
+    private int leastLostBy(int r, int thing, int last, int n, int what) {
+        int best = NONE;
+        int least = Integer.MAX_VALUE;
+        for (int v = 0; v <= last; v++) {
+            tryWith(r, thing, v);
+            int lost = allLostBehind(n);
+            if (lost < least) {
+                least = lost;
+                best = v;
+            }
+        }
+        return what == 0 ? best : least;
     }
 
     /** Runs the trial on by n TICKS. */
@@ -614,11 +596,11 @@ public final class CoilWheels {
         return true;
     }
 
-    private int startsAsSeen(int r) {
+    /** The values from 0 on (bits) of one thing of a ROTOR by which all is as SEEN. */
+    private int asSeenBy(int r, int thing, int last) {
         int bits = 0;
-        for (int v = 0; v < TURN; v++) {
-            trial.copyFrom(now);
-            trial.rotors[r].place += v;
+        for (int v = 0; v <= last; v++) {
+            tryWith(r, thing, v);
             if (goesAsSeen()) {
                 bits |= 1 << v;
             }

@@ -30,6 +30,7 @@ public final class SeenTest {
         CHECK.due("see(0, 0, 0) as 7", x.see(0, 0, 0), Check.FULL);
         CHECK.due("see(0, 0, 8) as 7", x.see(0, 0, 8), Check.BAD);
         CHECK.due("count(0) then", x.count(0), 6);
+        CHECK.due("kinds(0) by six", x.kinds(0), 0);
     }
 
     private static void forget() {
