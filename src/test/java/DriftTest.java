@@ -4,15 +4,43 @@ public final class DriftTest {
     private static final int[] STEPS = {0, 1, -1, 2};
 
     public static void main(String[] args) {
-        fieldAlone();
+        firstSigns();
+        seedsWrapAround();
+        byItself();
         everyDoesNotMatter();
-        refused();
+        driftIsBad();
+        driftIsState();
         CHECK.finish();
     }
 
+    private static void firstSigns() {
+        CHECK.says(33, "By itself, n TICKS (1 to 200) by a seed: ahead of each the seed becomes seed times 1103515245 and 12345; "
+            + "bits 16 to 30 of it are got: got by 4 (down) modulo 4 is done as a SIGN in that TICK (whatever EVERY is): "
+            + "ALL LOST in the end (what 0), by how many places ROTORS move (1).");
+        // Reckoned by hand of the sentence: how far the FIELD has gone, without signs, behind 1, 2, 3 .. TICKS.
+        gone(0, 0, 2, 3, 4, 5, 7, 9, 11, 12, 13, 14, 16);
+        gone(1, 1, 3, 3, 4, 5, 6, 6, 7, 8, 9, 11, 13);
+        gone(7, 2, 4, 5, 5, 5, 6, 6, 8, 8, 8, 10, 10);
+        gone(-1, 1, 2, 3, 5, 6, 6, 7, 9, 9, 11, 13, 14);
+        // FIELD 95, 105, 109 behind 200, so that so many TURNS are lost by what has no grip.
+        CHECK.row("drift(0, 200, ?)", what -> CHECK.told("plain 0 0;").drift(0, 200, what), 12, 0);
+        CHECK.row("drift(1, 200, ?)", what -> CHECK.told("plain 0 0;").drift(1, 200, what), 13, 0);
+        CHECK.row("drift(-1, 200, ?)", what -> CHECK.told("plain 0 0;").drift(-1, 200, what), 14, 0);
+        CHECK.due("drift(7, 200, 1)", CHECK.told("quick 3 0;").drift(7, 200, 1), 214);
+    }
+
+    private static void gone(int seed, int... want) {
+        CoilWheels x = CHECK.told("quick 3 0;signs 1;");
+        for (int n = 1; n <= want.length; n++) {
+            CHECK.due("drift(" + seed + ", " + n + ", 1)", x.drift(seed, n, 1), want[n - 1]);
+            CHECK.due("drift(" + seed + ", " + n + ", 0)", x.drift(seed, n, 0), 0);
+        }
+    }
+
     /** A ROTOR without grip stays at 0, so that ALL LOST tells the FIELD; one by one it moves if it is followed. */
-    private static void fieldAlone() {
-        int[] seeds = {0, 1, 7, -1, 123456789, Integer.MIN_VALUE, Integer.MAX_VALUE};
+    private static void seedsWrapAround() {
+        CHECK.says(33, "ahead of each the seed becomes seed times 1103515245 and 12345; bits 16 to 30 of it are got:");
+        int[] seeds = {0, 1, 7, -1, 123456789, -123456789, Integer.MIN_VALUE, Integer.MIN_VALUE + 1, Integer.MAX_VALUE};
         for (int seed : seeds) {
             CoilWheels x = CHECK.told("plain 0 0;signs 1;");
             CoilWheels quick = CHECK.told("quick 3 0;signs 1;");
@@ -23,16 +51,40 @@ public final class DriftTest {
                 CHECK.due(call + "0) of a quick one", quick.drift(seed, n, 0), 0);
                 CHECK.due(call + "1) of a quick one", quick.drift(seed, n, 1), wayBehind(seed, n));
             }
-            CHECK.due("rule(2) stays", x.rule(2), 0);
-            CHECK.due("rule(4) stays", x.rule(4), 100000);
-            CHECK.due("rotor(0, 2) stays", quick.rotor(0, 2), 100000);
+        }
+        // Bit 31 is got never, nor does it come down.
+        for (int n = 1; n <= 200; n += 20) {
+            CoilWheels x = CHECK.told("plain 2 3;heavy 3 1;");
+            CHECK.due("drift(MAX, n, 0)", x.drift(Integer.MAX_VALUE, n, 0), x.drift(-1, n, 0));
+            CHECK.due("drift(MIN, n, 1)", x.drift(Integer.MIN_VALUE, n, 1), x.drift(0, n, 1));
         }
     }
 
+    private static void byItself() {
+        CHECK.says(33, "By itself, n TICKS (1 to 200) by a seed:");
+        CoilWheels x = CHECK.run("plain 2 3;heavy 3 1;signs 3 1;every 2;", 3);
+        x.see(2, 0, 3);
+        String before = Check.stateOf(x);
+        int once = x.drift(5, 200, 1);
+        CHECK.due("drift(5, 200, 1) again", x.drift(5, 200, 1), once);
+        CHECK.stays("drift", before, x);
+        // It begins with all as it is: FIELD 4 is a hold off a TURN lost, and seed 1 leads on at first.
+        CoilWheels near = CHECK.run("plain 0 0;signs 1;", 4);
+        CHECK.due("near: drift(1, 1, 0)", near.drift(1, 1, 0), 1);
+        CHECK.due("near: drift(0, 1, 0)", near.drift(0, 1, 0), 0);
+        // At the last TICK, too.
+        CoilWheels last = CHECK.told("quick 3 0;");
+        for (int i = 0; i < 99; i++) {
+            last.ticks(100);
+        }
+        last.ticks(99);
+        CHECK.due("last: drift(7, 200, 1)", last.drift(7, 200, 1), 214);
+    }
+
     private static void everyDoesNotMatter() {
-        CoilWheels x = CHECK.told("plain 2 3;heavy 3 1;signs 3 1;every 9;");
+        CHECK.says(33, "is done as a SIGN in that TICK (whatever EVERY is):");
+        CoilWheels x = CHECK.run("plain 2 3;heavy 3 1;signs 3 1;every 9;", 1);
         CoilWheels y = CHECK.told("plain 2 3;heavy 3 1;");
-        x.ticks(1);
         y.add(3);
         y.ticks(1);
         y.cut(0);
@@ -42,18 +94,29 @@ public final class DriftTest {
         }
     }
 
-    private static void refused() {
-        CoilWheels x = new CoilWheels();
-        CHECK.due("drift(1, 0, 0)", x.drift(1, 0, 0), Check.BAD);
-        CHECK.due("drift(1, 201, 0)", x.drift(1, 201, 0), Check.BAD);
-        CHECK.due("drift(1, 1, 2)", x.drift(1, 1, 2), Check.BAD);
-        CHECK.due("drift(1, 1, -1)", x.drift(1, 1, -1), Check.BAD);
-        for (int n : Check.EXTREMES) {
-            CHECK.due("drift(1, " + n + ", 0)", x.drift(1, n, 0), Check.BAD);
+    private static void driftIsBad() {
+        CHECK.says(33, "BAD;");
+        CoilWheels x = CHECK.told("plain 2 3;");
+        CHECK.bounds("drift(1, ?, 0)", 1, 200, n -> x.drift(1, n, 0));
+        CHECK.bounds("drift(1, ?, 1)", 1, 200, n -> x.drift(1, n, 1));
+        CHECK.bounds("drift(1, 1, ?)", 0, 1, what -> x.drift(1, 1, what));
+        CHECK.bounds("drift(1, ?, 0) of none: BAD fits first", 1, 200, n -> new CoilWheels().drift(1, n, 0));
+        CHECK.bounds("drift(1, 1, ?) of none: BAD fits first", 0, 1, what -> new CoilWheels().drift(1, 1, what));
+        for (int seed : Check.EXTREMES) {
+            CHECK.due("drift(" + seed + ", 0, 0)", x.drift(seed, 0, 0), Check.BAD);
         }
-        CHECK.due("drift(1, 1, 0)", x.drift(1, 1, 0), Check.STATE);
+    }
+
+    private static void driftIsState() {
+        CHECK.says(33, "STATE: there are no ROTORS.");
+        CoilWheels x = new CoilWheels();
+        CHECK.row("drift(1, 1, ?)", what -> x.drift(1, 1, what), Check.STATE, Check.STATE, Check.BAD);
         x.add(1);
-        CHECK.due("drift(1, 200, 1)", x.drift(1, 200, 1), Check.STATE);
+        CHECK.row("drift(1, 200, ?)", what -> x.drift(1, 200, what), Check.STATE, Check.STATE, Check.BAD);
+        Check.tell(x, "stiff 0 0;");
+        CHECK.row("drift(0, 1, ?) of one", what -> x.drift(0, 1, what), 0, 0, Check.BAD);
+        x.text();
+        CHECK.row("drift(0, 1, ?) of none any more", what -> x.drift(0, 1, what), Check.STATE, Check.STATE, Check.BAD);
     }
 
     private static int signBehind(int seed, int n) {

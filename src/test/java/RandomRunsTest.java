@@ -30,7 +30,7 @@ public final class RandomRunsTest {
         random = new Random(seed);
     }
 
-    public static void main(String[] args) throws ReflectiveOperationException {
+    public static void main(String[] args) {
         allCallsAreDrawn();
         for (int run = 0; run < RUNS; run++) {
             new RandomRunsTest(run).run();
@@ -46,7 +46,7 @@ public final class RandomRunsTest {
         CHECK.due("how many calls are drawn", RANGES.length, calls);
     }
 
-    private void run() throws ReflectiveOperationException {
+    private void run() {
         tell();
         for (int i = 0; i < CALLS && same; i++) {
             int dice = random.nextInt(100);
@@ -78,7 +78,7 @@ public final class RandomRunsTest {
     }
 
     /** A text, now and then with a fault, so that there is something to run. */
-    private void tell() throws ReflectiveOperationException {
+    private void tell() {
         StringBuilder text = new StringBuilder();
         String[] names = {"plain", "quick", "heavy", "stiff"};
         int rotors = 1 + random.nextInt(4);
@@ -123,7 +123,7 @@ public final class RandomRunsTest {
     }
 
     /** What will be is SEEN, so that it is not always nothing that fits. */
-    private void lookOn() throws ReflectiveOperationException {
+    private void lookOn() {
         int r = random.nextInt(4);
         int n = random.nextInt(random.nextBoolean() ? 5 : 41);
         int at = model.ahead(r, n, 0);
@@ -136,7 +136,7 @@ public final class RandomRunsTest {
         }
     }
 
-    private void laySheet() throws ReflectiveOperationException {
+    private void laySheet() {
         int k = random.nextInt(4);
         int lane = random.nextInt(3);
         int n = random.nextInt(9);
@@ -153,33 +153,18 @@ public final class RandomRunsTest {
         call("count", 5);
     }
 
-    private void call(String name, int... args) throws ReflectiveOperationException {
+    private void call(String name, int... args) {
         if (!same) {
             return;
         }
-        StringBuilder told = new StringBuilder(name).append('(');
-        for (int i = 0; i < args.length; i++) {
-            told.append(i == 0 ? "" : ", ").append(args[i]);
-        }
-        String call = told.append(')').toString();
-        long got = answer(wheels, name, args);
-        long want = answer(model, name, args);
+        String call = Check.written(name, args);
+        long got = Check.answer(wheels, name, args);
+        long want = Check.answer(model, name, args);
         calls.append(call).append(' ');
         if (got != want) {
             same = false;
             System.out.println("behind " + calls);
         }
         CHECK.due(call, got, want);
-    }
-
-    private static long answer(Object target, String name, int[] args) throws ReflectiveOperationException {
-        Class<?>[] types = new Class<?>[args.length];
-        Object[] values = new Object[args.length];
-        for (int i = 0; i < args.length; i++) {
-            types[i] = int.class;
-            values[i] = args[i];
-        }
-        Method method = target.getClass().getDeclaredMethod(name, types);
-        return ((Number) method.invoke(target, values)).longValue();
     }
 }
