@@ -97,6 +97,13 @@ final class Check {
         return x;
     }
 
+    /** TICKS until TICK is so many, a hundred at once at most. */
+    static void runTo(CoilWheels x, int tick) {
+        for (int left = tick - x.rule(2); left > 0; left -= 100) {
+            x.ticks(Math.min(100, left));
+        }
+    }
+
     /** A call of CoilWheels, or of the model of it, by its name. */
     static long answer(Object target, String name, int... args) {
         Class<?>[] types = new Class<?>[args.length];

@@ -74,10 +74,7 @@ public final class DriftTest {
         CHECK.due("near: drift(0, 1, 0)", near.drift(0, 1, 0), 0);
         // At the last TICK, too.
         CoilWheels last = CHECK.told("quick 3 0;");
-        for (int i = 0; i < 99; i++) {
-            last.ticks(100);
-        }
-        last.ticks(99);
+        Check.runTo(last, 9999);
         CHECK.due("last: drift(7, 200, 1)", last.drift(7, 200, 1), 214);
     }
 

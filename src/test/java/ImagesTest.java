@@ -79,10 +79,7 @@ public final class ImagesTest {
         for (int i = 0; i < 6; i++) {
             x.see(8 * i, i % 4, i);
         }
-        for (int i = 0; i < 99; i++) {
-            x.ticks(100);
-        }
-        x.ticks(99);
+        Check.runTo(x, 9999);
         x.keep(1);
         String kept = Check.stateOf(x);
         for (int r = 0; r < 4; r++) {

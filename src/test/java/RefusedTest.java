@@ -221,10 +221,7 @@ public final class RefusedTest {
     private static CoilWheels full() {
         CoilWheels x = CHECK.told("plain 3 0;quick 2 1;heavy 3 5;stiff 3 7;signs 1 1 2 3 0 1 2 1 0 1 2 3 0 1 2 1;every 9;");
         x.keep(1);
-        for (int i = 0; i < 99; i++) {
-            x.ticks(100);
-        }
-        x.ticks(99);
+        Check.runTo(x, 9999);
         for (int i = 0; i < 6; i++) {
             x.see(8 * i, i % 4, x.ahead(i % 4, 8 * i, 0) % 8);
         }

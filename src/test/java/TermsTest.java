@@ -270,10 +270,7 @@ public final class TermsTest {
         leads(one, -1, -2, -3);
         // At the last TICK that there is: 9998 leaves 2 by 4.
         CoilWheels late = CHECK.told("signs 0 0 1 0;");
-        for (int i = 0; i < 99; i++) {
-            late.ticks(100);
-        }
-        late.ticks(98);
+        Check.runTo(late, 9998);
         int before = late.rule(4);
         late.ticks(1);
         CHECK.due("FIELD behind TICK 9998", late.rule(4), before + 1);
@@ -338,10 +335,7 @@ public final class TermsTest {
         }
         // What is to come may lie behind the last TICK that ticks() would do.
         CoilWheels last = CHECK.told("plain 1 0;signs 1;");
-        for (int i = 0; i < 99; i++) {
-            last.ticks(100);
-        }
-        last.ticks(99);
+        Check.runTo(last, 9999);
         CHECK.row("at the last TICK: runs(200, ?)", what -> last.runs(200, what), 200, 110199, 0, 0);
         CHECK.due("at the last TICK: ahead(0, 200, 0)", last.ahead(0, 200, 0), 110199);
     }

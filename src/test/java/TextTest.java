@@ -464,10 +464,7 @@ public final class TextTest {
     /** TICK and FIELD are as far as they go; place 0 is 9999 places on. */
     private static CoilWheels last() {
         CoilWheels x = CHECK.told("plain 0 0;signs 2;");
-        for (int i = 0; i < 99; i++) {
-            x.ticks(100);
-        }
-        x.ticks(99);
+        Check.runTo(x, 9999);
         return x;
     }
 
