@@ -565,9 +565,10 @@ public final class CoilWheels {
 
     /** The value from 0 on of one thing of a ROTOR by which ALL LOST is least, or how much. */
     private int leastLostBy(int r, int thing, int last, int n, int what) {
-        int best = NONE;
-        int least = Integer.MAX_VALUE;
-        for (int v = 0; v <= last; v++) {
+        int best = 0;
+        tryWith(r, thing, 0);
+        int least = allLostBehind(n);
+        for (int v = 1; v <= last; v++) {
             tryWith(r, thing, v);
             int lost = allLostBehind(n);
             if (lost < least) {

@@ -81,6 +81,8 @@ public final class BestTest {
         CHECK.says(20, "BAD; NONE: by none.");
         CoilWheels x = CHECK.told("plain 2 0;heavy 3 0;signs 3;");
         CHECK.due("need(1, 4)", x.need(1, 4), Check.NONE);
+        // OFF 4 is held by no GRIP: a TURN back at first, it stays, and FIELD 1 is OFF -3, no TURN back any more.
+        CHECK.due("need(0, 2) by OFF 4", CHECK.told("plain 0 4;signs 0 1;").need(0, 2), Check.NONE);
         CHECK.due("need(0, 1) of what is lost no more", CHECK.told("plain 0 4;signs 1;").need(0, 1), Check.NONE);
         CHECK.bounds("need(?, 0)", 0, 1, r -> x.need(r, 0));
         CHECK.bounds("need(?, 200)", 0, 1, r -> x.need(r, 200));
@@ -145,6 +147,11 @@ public final class BestTest {
         CoilWheels round = CHECK.told("plain 0 0;signs 1 0 0 0 0 0 0 0 0 0 0 0 0 0 0 0;");
         CHECK.row("round: swap(200, ?)", what -> round.swap(200, what), 8, 1);
         CHECK.row("round: swap(199, ?)", what -> round.swap(199, what), 7, 1);
+        // Each comes where the other was: FIELD 5 behind 3 and behind 4; with the hold first, 3 behind 3, but 5
+        // behind 4, with the back first 2.
+        CoilWheels each = CHECK.told("plain 0 0;signs 3 3 1 0 2;");
+        CHECK.row("each: swap(3, ?)", what -> each.swap(3, what), 3, 0);
+        CHECK.row("each: swap(4, ?)", what -> each.swap(4, what), 4, 0);
         CoilWheels full = CHECK.told("plain 0 0;signs 1 1 1 1 1 0 0 0 0 0 0 0 0 0 0 2;");
         CHECK.due("full: swap(15, 0)", full.swap(15, 0), 15);
         CHECK.due("full: swap(5, 0)", full.swap(5, 0), 5);

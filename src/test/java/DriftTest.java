@@ -6,6 +6,7 @@ public final class DriftTest {
     public static void main(String[] args) {
         firstSigns();
         seedsWrapAround();
+        lastBitsOfEachSign();
         byItself();
         everyDoesNotMatter();
         driftIsBad();
@@ -58,6 +59,31 @@ public final class DriftTest {
             CHECK.due("drift(MAX, n, 0)", x.drift(Integer.MAX_VALUE, n, 0), x.drift(-1, n, 0));
             CHECK.due("drift(MIN, n, 1)", x.drift(Integer.MIN_VALUE, n, 1), x.drift(0, n, 1));
         }
+    }
+
+    /** The first and the last number that lead to each SIGN, and so by how many places a quick ROTOR moves. */
+    private static void lastBitsOfEachSign() {
+        CHECK.says(33, "bits 16 to 30 of it are got: got by 4 (down) modulo 4 is done as a SIGN in that TICK");
+        int[][] becomes = {{0, 0}, {0x3ffff, 0}, {0x40000, 1}, {0x7ffff, 1}, {0x80000, 1}, {0xbffff, 1}, {0xc0000, 2}, {0xfffff, 2},
+            {0x100000, 0}, {0x7fffffff, 2}, {0x80000000, 0}, {0x8003ffff, 0}, {0x80040000, 1}, {0xffffffff, 2}};
+        CoilWheels x = CHECK.told("quick 3 0;");
+        CoilWheels back = CHECK.told("plain 0 4;");
+        for (int[] b : becomes) {
+            CHECK.due("drift by a seed that becomes " + b[0], x.drift(seedAheadOf(b[0]), 1, 1), b[1]);
+            // A TURN back: on, it is lost no more; back, it is.
+            boolean goesOn = b[1] > 0 && (b[0] & 0xc0000) != 0x80000;
+            CHECK.due("drift by a seed that becomes " + b[0], back.drift(seedAheadOf(b[0]), 1, 0), goesOn ? 0 : 1);
+        }
+    }
+
+    /** The one seed that becomes this by 1103515245 and 12345, bit by bit from the lowest on. */
+    private static int seedAheadOf(int wanted) {
+        int seed = 0;
+        for (int bit = 0; bit < 32; bit++) {
+            int off = seed * 1103515245 + 12345 ^ wanted;
+            seed |= off & 1 << bit;
+        }
+        return seed;
     }
 
     private static void byItself() {

@@ -40,6 +40,14 @@ public final class LuckTest {
         luck(x, 3, 0, 3, 637, 1000);
         luck(x, 3, 1, 2, 91, 100);
         luck(x, 3, 1, 3, 973, 1000);
+        // Likewise back, where a WAY below 0 would do.
+        CoilWheels back = CHECK.told("heavy 1 0;signs 2 0 0;");
+        luck(back, 3, 0, 2, 49, 100);
+        luck(back, 3, 0, 3, 637, 1000);
+        // Of all: the last of four as the first.
+        CoilWheels four = CHECK.told("plain 1 0;heavy 1 0;quick 1 0;heavy 1 0;signs 1 0 0;");
+        luck(four, 3, 1, 3, 637, 1000);
+        luck(four, 3, 3, 3, 637, 1000);
         // A WAY that it had before is taken, too: going, it is home at once, or in two more TICKS.
         CoilWheels going = CHECK.run("heavy 1 0;signs 1 0 0 0;", 1);
         luck(going, 3, 0, 1, 7, 10);

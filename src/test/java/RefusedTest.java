@@ -16,22 +16,23 @@ public final class RefusedTest {
     public static void main(String[] args) {
         Map<String, Supplier<CoilWheels>> objects = new LinkedHashMap<>();
         objects.put("nothing", CoilWheels::new);
-        objects.put("something", RefusedTest::something);
-        objects.put("full", RefusedTest::full);
-        objects.put("below", RefusedTest::below);
+        objects.put("something", Samples::something);
+        objects.put("full", Samples::full);
+        objects.put("below", Samples::below);
+        objects.put("busy", Samples::busy);
         objects.forEach((name, object) -> new RefusedTest(name, object).run());
         CHECK.finish();
     }
 
     private final String name;
     private final Supplier<CoilWheels> object;
-    private final String untouched;
+    private final Map<String, String> untouched;
     private int refused;
 
     private RefusedTest(String name, Supplier<CoilWheels> object) {
         this.name = name;
         this.object = object;
-        untouched = allThatIsLeftToTell(object.get());
+        untouched = Parts.of(object.get());
     }
 
     private void run() {
@@ -137,6 +138,11 @@ public final class RefusedTest {
             isRefused(-21, "read", 3, 2, 34, 2);
             isRefused(-22, "read", 3, 2, 32, 20);
         }
+        if (name.equals("busy")) {
+            // CELL 11 is 9, which no SIGN can be.
+            isRefused(-20, "read", 3, 0, 10, 1);
+            isRefused(-25, "read", 3, 0, 0, 20);
+        }
     }
 
     /** The one refusal that changes THE TAPE, and what fault() tells. */
@@ -147,7 +153,7 @@ public final class RefusedTest {
         CHECK.due(name + ": fault()", x.fault(), 4);
         CoilWheels y = object.get();
         y.end(0);
-        CHECK.same(name + ": a text with a FAULT", allThatIsLeftToTell(x), allThatIsLeftToTell(y));
+        Parts.same(CHECK, name + ": a text with a FAULT", Parts.of(x), Parts.of(y), "FAULT");
     }
 
     /** Calls that tell, and change nothing though they are taken. */
@@ -166,8 +172,7 @@ public final class RefusedTest {
                 Check.answer(x, call, args);
             }
         }
-        CHECK.due(name + ": fault() when others were asked", x.fault(), object.get().fault());
-        CHECK.same(name + ": what is only asked", allThatIsLeftToTell(x), untouched);
+        Parts.same(CHECK, name + ": what is only asked", Parts.of(x), untouched);
     }
 
     private void isRefused(int answer, String call, int... args) {
@@ -175,84 +180,6 @@ public final class RefusedTest {
         CoilWheels x = object.get();
         String told = name + ": " + Check.written(call, args);
         CHECK.due(told, Check.answer(x, call, args), answer);
-        CHECK.due(told + ": fault() then", x.fault(), object.get().fault());
-        CHECK.same(told + " changed something", allThatIsLeftToTell(x), untouched);
-    }
-
-    /** All but fault(): asks first, then uses up IMAGES, SHEETS, THE TAPE. */
-    private static String allThatIsLeftToTell(CoilWheels x) {
-        StringBuilder all = new StringBuilder(Check.stateButFault(x));
-        for (int what = 0; what <= 3; what++) {
-            all.append(' ').append(x.runs(50, what));
-        }
-        for (int k = 0; k < 2; k++) {
-            all.append(" back ").append(x.back(k)).append(' ').append(Check.stateButFault(x));
-        }
-        int signs = x.rule(1);
-        for (int i = signs; i < 16; i++) {
-            x.add(0);
-        }
-        for (int k = 0; k < 4; k++) {
-            for (int lane = 0; lane <= 2; lane++) {
-                for (int f = 0; f < 40; f++) {
-                    all.append(' ').append(x.read(k, lane, f, 1)).append(x.torn()).append(x.count(5));
-                }
-            }
-        }
-        return all.append(" text ").append(x.text()).append(' ').append(Check.stateOf(x)).toString();
-    }
-
-    private static CoilWheels something() {
-        CoilWheels x = CHECK.run("heavy 3 0;plain 1 3;signs 1 3 2;every 2;", 3);
-        x.see(2, 1, 5);
-        x.see(0, 0, 0);
-        x.sheet(0, 0, 4);
-        x.lay(0, 0, 1);
-        x.lay(0, 3, 2);
-        x.sheet(1, 1, 0);
-        x.sheet(2, 2, 6);
-        x.lay(2, 5, 1);
-        x.read(2, 0, 0, 1);
-        Check.tell(x, "every 0;");
-        Check.feed(x, "quick 2 5;every 3;");
-        return x;
-    }
-
-    private static CoilWheels full() {
-        CoilWheels x = CHECK.told("plain 3 0;quick 2 1;heavy 3 5;stiff 3 7;signs 1 1 2 3 0 1 2 1 0 1 2 3 0 1 2 1;every 9;");
-        x.keep(1);
-        Check.runTo(x, 9999);
-        for (int i = 0; i < 6; i++) {
-            x.see(8 * i, i % 4, x.ahead(i % 4, 8 * i, 0) % 8);
-        }
-        x.keep(0);
-        for (int k = 0; k < 4; k++) {
-            x.sheet(k, k % 3 == 0 ? 2 : k, 40);
-            for (int i = 0; i < 40; i++) {
-                x.lay(k, i, (i + k) % 8 == 7 ? i : i % 4);
-            }
-        }
-        x.read(0, 0, 0, 1);
-        Check.tell(x, "signs 1;signs");
-        Check.feed(x, "heavy 1 4;signs 2 2;every 3;" + " ".repeat(132));
-        return x;
-    }
-
-    private static CoilWheels below() {
-        CoilWheels x = CHECK.run("plain 3 0;quick 0 1;stiff 2 6;signs 2 2 0 2;every 3;", 97);
-        x.turn(1, 0);
-        x.turn(2, 3);
-        x.keep(0);
-        x.ticks(5);
-        x.see(7, 0, 4);
-        x.sheet(0, 1, 2);
-        x.sheet(1, 0, 40);
-        x.sheet(2, 0, 1);
-        x.sheet(3, 2, 3);
-        x.lay(3, 2, -5);
-        x.read(0, 1, 1, 1);
-        Check.tell(x, "x");
-        Check.feed(x, "stiff 3 3;");
-        return x;
+        Parts.same(CHECK, told, Parts.of(x), untouched);
     }
 }

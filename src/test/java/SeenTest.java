@@ -239,6 +239,13 @@ public final class SeenTest {
         CHECK.due("grips(0): the other is not as seen", x.grips(0), 0);
         CHECK.due("starts(0): the other is not as seen", x.starts(0), 0);
         CHECK.due("ask(0, 0): the other is not as seen", x.ask(0, 0), Check.NONE);
+        // What was SEEN of a later TICK counts, though something of an earlier one was SEEN after it.
+        CoilWheels later = CHECK.told("plain 3 0;signs 1;");
+        later.see(5, 0, 4);
+        later.see(0, 0, 0);
+        CHECK.due("later: kinds(0)", later.kinds(0), 4);
+        CHECK.due("later: grips(0)", later.grips(0), 0);
+        CHECK.due("later: starts(0)", later.starts(0), 0);
         // The sixth counts as the first, and so does the last ROTOR.
         CoilWheels six = CHECK.told(FOUR);
         for (int i = 0; i < 5; i++) {
@@ -264,6 +271,12 @@ public final class SeenTest {
         CoilWheels heavy = CHECK.run("heavy 3 0;signs 1 0;", 1);
         heavy.see(1, 0, 1);
         CHECK.row("heavy: ask(0, ?) of two", what -> heavy.ask(0, what), 0, 1);
+        // Of that ROTOR: where one was SEEN is known, where the others are is not.
+        CoilWheels each = CHECK.told("plain 3 0;plain 3 4;plain 3 0;");
+        each.see(0, 1, 4);
+        CHECK.row("each: ask(0, ?)", what -> each.ask(0, what), 0, 1);
+        CHECK.row("each: ask(1, ?)", what -> each.ask(1, what), Check.NONE, Check.NONE);
+        CHECK.row("each: ask(2, ?)", what -> each.ask(2, what), 0, 1);
     }
 
     private static void askOfTheLastStart() {
