@@ -80,7 +80,9 @@ public final class BestTest {
     private static void needIsBadOrNone() {
         CHECK.says(20, "BAD; NONE: by none.");
         CoilWheels x = CHECK.told("plain 2 0;heavy 3 0;signs 3;");
+        String before = Check.stateOf(x);
         CHECK.due("need(1, 4)", x.need(1, 4), Check.NONE);
+        CHECK.stays("need(1, 4)", before, x);
         // OFF 4 is held by no GRIP: a TURN back at first, it stays, and FIELD 1 is OFF -3, no TURN back any more.
         CHECK.due("need(0, 2) by OFF 4", CHECK.told("plain 0 4;signs 0 1;").need(0, 2), Check.NONE);
         CHECK.due("need(0, 1) of what is lost no more", CHECK.told("plain 0 4;signs 1;").need(0, 1), Check.NONE);
@@ -103,6 +105,9 @@ public final class BestTest {
         CHECK.row("kind(1, 4, ?): the first of several", what -> x.kind(1, 4, what), 0, 2);
         CHECK.row("kind(0, 200, ?)", what -> x.kind(0, 200, what), 1, 50);
         CHECK.stays("kind", before, x);
+        // The other stays of its KIND, and loses one, as a plain one would not.
+        CHECK.row("other: kind(1, 5, ?)", what -> CHECK.told("heavy 1 0;stiff 3 0;signs 1;").kind(1, 5, what), 0, 1);
+        CHECK.row("other: kind(0, 5, ?)", what -> CHECK.told("stiff 3 0;heavy 1 0;signs 1;").kind(0, 5, what), 0, 1);
         // A TURN back at first: all but the stiff one go on, and stay a TURN back, while it stays at 7.
         CoilWheels stiff = CHECK.told("plain 3 7;signs 0 3 3;");
         CHECK.row("stiff: kind(0, 3, ?)", what -> stiff.kind(0, 3, what), 3, 0);

@@ -311,7 +311,9 @@ public final class SheetsTest {
         x.sheet(0, 0, 7);
         lay(x, 0, new int[] {0, 1, 3, 1, 1, 4, 0});
         x.read(1, 0, 0, 1);
-        CHECK.due("read(0, 0, 0, 1)", x.read(0, 0, 2, 1), -20);
+        String before = Check.stateOf(x);
+        CHECK.due("read(0, 0, 2, 1)", x.read(0, 0, 2, 1), -20);
+        CHECK.stays("read(0, 0, 2, 1)", before, x);
         CHECK.due("read(0, 0, 0, 2): no such SIGN", x.read(0, 0, 0, 2), -21);
         signs(x, 0, 0, 0);
         x.lay(0, 2, 2);
